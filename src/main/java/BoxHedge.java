@@ -912,7 +912,8 @@ public final class BoxHedge {
         private int number() {
             int n = -1;
             for (int k = 0; k < 2 && at < length && text[at] >= '0' && text[at] <= '9'; k++) {
-                n = Math.max(0, n) * 10 + (text[at] - '0');
+                int digit = text[at] - '0';
+                n = n < 0 ? digit : 10 * n + digit;
                 at++;
             }
             return n;
