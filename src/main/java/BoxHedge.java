@@ -511,7 +511,7 @@ public final class BoxHedge {
 
     /** The plants, and all else that an image keeps. */
     private static final class Hedge {
-        private static final int PACE = 3, FROST = 20, LOSE = 2;
+        private static final int PLAIN_PACE = 3, PLAIN_FROST = 20, PLAIN_LOSE = 2;
 
         int size;
         final int[] kinds = new int[MOST_PLANTS];
@@ -542,7 +542,7 @@ public final class BoxHedge {
             book.become(other.book);
         }
 
-        /** Clears the place first: an undo may have left there what a plant had that is no more. */
+        /** Places behind the last plant are 0 always: they are so at first, and whole rows are copied. */
         int add(int kind, int v) {
             if (size >= MOST_PLANTS) {
                 return FULL;
@@ -550,11 +550,6 @@ public final class BoxHedge {
             int plant = size;
             kinds[plant] = kind;
             values[plant] = v;
-            touches[plant] = 0;
-            dead = with(dead, plant, false);
-            for (int part = 0; part < PARTS; part++) {
-                rows[plant * PARTS + part] = 0;
-            }
             size++;
             return plant;
         }
@@ -568,16 +563,16 @@ public final class BoxHedge {
         }
 
         int frost() {
-            return garden == null || garden.frost < 0 ? FROST : garden.frost;
+            return garden == null || garden.frost < 0 ? PLAIN_FROST : garden.frost;
         }
 
         int lose() {
-            return garden == null || garden.lose < 0 ? LOSE : Math.max(1, garden.lose);
+            return garden == null || garden.lose < 0 ? PLAIN_LOSE : Math.max(1, garden.lose);
         }
 
         int paceOf(int plant) {
             if (garden == null) {
-                return PACE;
+                return PLAIN_PACE;
             }
             view[0] = plant;
             view[1] = kinds[plant];
@@ -585,7 +580,7 @@ public final class BoxHedge {
             view[3] = Integer.bitCount(touches[plant]);
             view[4] = hour % 24;
             view[5] = Math.min(99, hour / 24);
-            return Math.max(1, PACE + garden.slowness(view));
+            return Math.max(1, PLAIN_PACE + garden.slowness(view));
         }
 
         int takesOf(int plant) {
@@ -1023,7 +1018,8 @@ public final class BoxHedge {
     private static final class Questions {
         private static final int MOST_CUT = 3;
         private static final int GUESSED_WORDS = 100;
-        private static final int PLAN_DIES = 0, PLAN_LIVES = 1, PLAN_HOURS = 6;
+        private static final int DIES = 0, LIVES = 1;
+        private static final int PLANNED_HOURS = 6;
 
         private final Hedge hedge;
         private final Hedge trial = new Hedge();
@@ -1296,10 +1292,10 @@ public final class BoxHedge {
             trial.become(hedge);
             for (int k = 0; k < hedge.plan.size; k++) {
                 int what = hedge.plan.cell(k, 0);
-                if (what == PLAN_DIES || what == PLAN_LIVES) {
-                    trial.dead = with(trial.dead, hedge.plan.cell(k, 1), what == PLAN_DIES);
+                if (what == DIES || what == LIVES) {
+                    trial.dead = with(trial.dead, hedge.plan.cell(k, 1), what == DIES);
                 } else {
-                    trial.hour += PLAN_HOURS;
+                    trial.hour += PLANNED_HOURS;
                 }
             }
             hearing.measure(trial);

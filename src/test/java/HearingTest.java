@@ -88,6 +88,8 @@ public final class HearingTest {
         Due.is("right of 0", x.right(0, 0), 30);
         Due.is("right of 40: doubled and cut again", x.right(0, 40), 22);
         Due.is("right of 9999", x.right(0, 9999), 6);
+        Due.is("right of it, as 0 hears it", Due.touches(x, 40).right(3, 0), 1 + 2 + 4 + 16);
+        x.touch(4, 0, false);
         x.kill(0, true);
         Due.is("right of a dead one", x.right(0, 0), 0);
         Due.is("no such one", x.right(5, -1), BoxHedge.NONE);
@@ -143,6 +145,9 @@ public final class HearingTest {
         Due.is("no such one", x.needed(6, 6), BoxHedge.NONE);
         Due.is("no such other", x.needed(0, -1), BoxHedge.NONE);
         Due.is("both one", x.needed(1, 1), BoxHedge.BAD);
+        BoxHedge y = Due.touches(Due.hedge(0, 0, 0, 0, 0, 0), 43, 32, 21, 10);
+        Due.is("down to the first", y.needed(4, 0), 2 + 4 + 8);
+        Due.is("the first itself", Due.touches(Due.hedge(0, 0, 0, 0), 10, 2).needed(1, 2), 1);
     }
 
     private static void round(BoxHedge x, int one, int word, int hours, int what) {
@@ -219,6 +224,12 @@ public final class HearingTest {
         BoxHedge x = Due.touches(Due.hedge(0, 0, 0, 0, 0), 1, 12, 3);
         Due.garden(x, "slow 9 t>2");
         join(x, 0, 2, Due.NEVER, Due.NEVER);
+        Due.garden(x, "slow 9 p=0&t=2");
+        x.touch(2, 3, true);
+        x.touch(0, 3, false);
+        join(x, 0, 3, 13, 6);
+        x.touch(2, 3, false);
+        x.touch(0, 3, true);
         Due.garden(x, "quick 2 t=2&p=1");
         join(x, 0, 2, 2, 3);
         x.touch(0, 2, true);
@@ -233,6 +244,9 @@ public final class HearingTest {
         x.touch(0, 2, true);
         Due.garden(x, "quick 2 t=3");
         join(x, 0, 1, 3, 1);
+        BoxHedge y = Due.touches(Due.hedge(4, 0, 0, 0), 1, 12);
+        Due.garden(y, "slow 97 v=4");
+        join(y, 0, 2, 2, 100);
     }
 
     private static void listen() {
@@ -251,6 +265,8 @@ public final class HearingTest {
         y.touch(0, 1, true);
         y.touch(1, 0, true);
         Due.is("the one with four unlike", y.listen(0), 1);
+        BoxHedge z = Due.touches(Due.hedge(1, 0, 1, 0), 2, 12);
+        Due.is("words one apart", z.listen(9999), 2);
         Due.is("no plants", new BoxHedge().listen(0), Due.NEVER);
         Due.is("no plants, word bad", new BoxHedge().listen(10000), BoxHedge.BAD);
         Due.is("word below 0", x.listen(-1), BoxHedge.BAD);

@@ -60,12 +60,33 @@ public final class ModelTest {
                 call("kill", below(8), random.nextInt(3) == 0);
             } else if (turn < 22) {
                 call("row", below(8), below(4), below(10));
+            } else if (turn < 40) {
+                ask();
             } else {
                 Method m = asked[random.nextInt(asked.length)];
                 call(m.getName(), made(m));
             }
         }
         return !wrong;
+    }
+
+    /** A question of two plants that are there. */
+    private void ask() throws ReflectiveOperationException {
+        int size = model.world.plants.size();
+        if (size < 2) {
+            call("plant", below(7), below(10));
+            return;
+        }
+        int one = random.nextInt(size);
+        int other = (one + 1 + random.nextInt(size - 1)) % size;
+        String[] questions = {"cut", "join", "join", "join", "odds", "needed", "meet", "planned"};
+        String question = questions[random.nextInt(questions.length)];
+        if (question.equals("needed") || question.equals("meet") || question.equals("planned")) {
+            call(question, one, other);
+        } else {
+            call(question, one, other, 0);
+            call(question, one, other, 1);
+        }
     }
 
     private void grow() throws ReflectiveOperationException {

@@ -156,9 +156,14 @@ public final class ToldByHandTest {
         Due.is("of the dead itself", x.planned(0, 0), Due.NEVER);
         Due.is("of another itself", x.planned(3, 3), 0);
         x.plan(-1, 0);
-        for (int k = 0; k < 4; k++) {
-            x.plan(2, 0);
-        }
+        Due.garden(x, "slow 1 h=12;slow 2 h=24;slow 4 h=18");
+        x.plan(2, 0);
+        x.plan(2, 0);
+        Due.is("twelve hours on", x.planned(1, 3), 4);
+        x.plan(2, 0);
+        Due.is("eighteen hours on", x.planned(2, 3), 7);
+        Due.garden(x, "slow 7 p=2");
+        x.plan(2, 0);
         Due.is("a day on, frost again", x.planned(0, 3), 26 + 3);
         for (int k = 0; k < 101; k++) {
             x.pass(99);
@@ -288,7 +293,11 @@ public final class ToldByHandTest {
         x.kill(0, true);
         x.pass(50);
         x.see(-1, 0, 0);
+        x.see(0, 6, 0);
+        x.plan(-1, 0);
         x.plan(2, 0);
+        x.plan(2, 0);
+        x.book(-1, 0, 0);
         x.book(0, 0, 0);
         x.plant(6, 9);
         x.touch(2, 0, true);
