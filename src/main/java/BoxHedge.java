@@ -809,7 +809,7 @@ public final class BoxHedge {
         }
 
         private boolean isClause() {
-            int word = FIRST_LETTERS.indexOf(sign());
+            int word = FIRST_LETTERS.indexOf(here());
             if (word < 0 || !skipsAll(spelled(word)) || !skips(' ')) {
                 return false;
             }
@@ -868,8 +868,8 @@ public final class BoxHedge {
         }
 
         private boolean isPart(int depth) {
-            boolean not = sign() == '!';
-            if (!not && sign() != '(') {
+            boolean not = here() == '!';
+            if (!not && here() != '(') {
                 return isTest();
             }
             if (depth >= DEEPEST) {
@@ -885,12 +885,12 @@ public final class BoxHedge {
         }
 
         private boolean isTest() {
-            int letter = Garden.LETTERS.indexOf(sign());
+            int letter = Garden.LETTERS.indexOf(here());
             if (letter < 0) {
                 return false;
             }
             at++;
-            int sign = Garden.SIGNS.indexOf(sign());
+            int sign = Garden.SIGNS.indexOf(here());
             if (sign < 0) {
                 return false;
             }
@@ -924,7 +924,7 @@ public final class BoxHedge {
         }
 
         private boolean skips(char sign) {
-            if (sign() != sign) {
+            if (here() != sign) {
                 return false;
             }
             at++;
@@ -932,7 +932,7 @@ public final class BoxHedge {
         }
 
         /** At the text's end 0, which no garden has anywhere. */
-        private char sign() {
+        private char here() {
             return at < length ? (char) text[at] : 0;
         }
     }

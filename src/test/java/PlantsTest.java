@@ -12,6 +12,7 @@ public final class PlantsTest {
         gardenNumbers();
         gardenFaults();
         gardenDepth();
+        gardenAfterFaults();
         gardenTests();
         gardenClauses();
         told();
@@ -238,6 +239,18 @@ public final class PlantsTest {
         fault(ten + ";lose 1", 69);
         fault(ten + ";", 69);
         fault(ten + " ", 69);
+    }
+
+    private static void gardenAfterFaults() {
+        BoxHedge x = Due.hedge(0, 0, 0);
+        for (int k = 0; k < 9; k++) {
+            Due.is("a long one", Due.garden(x, "slow 7 p<9&p<9&p<9&p<9&p<9&p<9&p<9&p<9;lose 9;frost 9;slow 7 p<9&p<9&p<9&p<9 "), -86);
+        }
+        Due.is("then a short one", Due.garden(x, "slow 5 p=0&v=0"), 0);
+        Due.is("pace by that alone", x.of(0, 4), 8);
+        Due.is("pace of another", x.of(1, 4), 3);
+        Due.is("lose", x.told(2), 2);
+        Due.is("frost", x.told(1), 20);
     }
 
     private static void pace(BoxHedge x, int plant, String e, boolean holds) {
