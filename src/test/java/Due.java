@@ -12,6 +12,11 @@ final class Due {
         }
     }
 
+    static void wrong(String what) {
+        wrong++;
+        System.out.println(what);
+    }
+
     static void end() {
         if (wrong != 0) {
             System.exit(1);
