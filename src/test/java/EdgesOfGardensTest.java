@@ -92,6 +92,15 @@ public final class EdgesOfGardensTest {
 
     private static void wordsOfClauses() {
         fault("Lose 1", 0);
+        fault("l 1", 1);
+        fault("los 1", 3);
+        fault("f 1", 1);
+        fault("fros 1", 4);
+        fault("s 1 p=0", 1);
+        fault("slo 1 p=0", 3);
+        fault("q 1 p=0", 1);
+        fault("quic 1 p=0", 4);
+        fault("lose 1;los 1", 10);
         fault("x", 0);
         fault("1", 0);
         fault("p=0", 0);
@@ -141,6 +150,11 @@ public final class EdgesOfGardensTest {
     }
 
     private static void numbersOfTests() {
+        fault("slow 1 p=", 9);
+        fault("quick 1 !p>", 11);
+        fault("slow 1 p=1|p<", 13);
+        fault("slow 1 p=1&p<;lose 1", 13);
+        fault("slow 1 (p<)", 10);
         fault("slow 1 p=x", 9);
         fault("slow 1 p=-1", 9);
         fault("slow 1 p=p", 9);

@@ -195,6 +195,11 @@ public final class EdgesOfHearingTest {
             kill(4, true)=0 needed(0, 7)=110 kill(3, true)=0 needed(0, 7)=0 kill(3, false)=1
             kill(7, true)=0 needed(0, 7)=0 kill(7, false)=1 kill(0, true)=0 needed(0, 7)=0
             """);
+        Script.run("17: down to 0, and by 0", """
+            plant(0, 0)*8=7 touch(7, 6, true)=0 touch(6, 5, true)=0 touch(5, 4, true)=0 touch(4, 3, true)=0 touch(3, 2, true)=0
+            touch(2, 1, true)=0 needed(7, 0)=0 cut(7, 0, 0)=0 touch(1, 0, true)=0 needed(7, 0)=126 cut(7, 0, 0)=1 cut(7, 0, 1)=2
+            odds(7, 0, 0)=0 odds(7, 0, 1)=1 touch(0, 7, true)=0 needed(1, 6)=129 cut(1, 6, 1)=1 needed(1, 7)=1 odds(1, 7, 0)=5 odds(1, 7, 1)=6
+            """);
         Script.run("17: NONE; BAD: one is both", """
             plant(0, 0)*2=1 needed(0, 0)=BAD needed(1, 1)=BAD needed(2, 2)=NONE needed(-1, -1)=NONE needed(0, 2)=NONE needed(2, 0)=NONE
             needed(0, -1)=NONE needed(-1, 0)=NONE needed(0, MAX)=NONE needed(MIN, 0)=NONE
@@ -268,6 +273,13 @@ public final class EdgesOfHearingTest {
             garden"quick 2 t=2"=3 join(0, 3, 0)=1 join(0, 3, 1)=1
             garden"quick 1 t=2"=4 join(0, 3, 0)=1 join(0, 3, 1)=2 touch(0, 1, true)=0 join(0, 3, 0)=NEVER
             """);
+        Script.run("20: none that TOUCHES all others should TOUCH one more", """
+            plant(0, 0)*2=1 touch(0, 1, true)=0 garden"quick 2 t=2"=0 join(0, 1, 0)=NEVER join(0, 1, 1)=NEVER join(1, 0, 0)=10
+            plant(0, 0)=2 join(0, 1, 0)=2 join(0, 1, 1)=1 touch(0, 2, true)=0 garden"quick 2 t=3"=1 join(0, 1, 0)=NEVER
+            plant(0, 0)*5=7 join(0, 1, 0)=3 touch(0, 3, true)=0 touch(0, 4, true)=0 touch(0, 5, true)=0 touch(0, 6, true)=0
+            garden"quick 2 t=7"=2 join(0, 1, 0)=7 touch(0, 7, true)=0 garden"quick 2 t>7"=3 join(0, 1, 0)=NEVER join(7, 1, 0)=71 join(6, 7, 0)=67
+            join(6, 7, 1)=3 touch(7, 0, true)=0 join(7, 6, 0)=76 join(7, 6, 1)=3
+            """);
     }
 
     private static void listen() {
@@ -279,6 +291,10 @@ public final class EdgesOfHearingTest {
         Script.run("21: in how many HOURS and what", """
             plant(3, 0)=0 plant(0, 0)=1 plant(0, 0)=2 touch(0, 2, true)=0 touch(1, 2, true)=0
             listen(0)=0 listen(1)=2 listen(9999)=2 garden"lose 1"=0 listen(9999)=0 garden"lose 1;slow 1 p=0"=1 listen(9999)=2
+            """);
+        Script.run("21: as many HOURS more as the WORD is less are unlike all the same", """
+            plant(1, 3)=0 plant(2, 0)=1 plant(0, 0)=2 touch(0, 2, true)=0 touch(1, 2, true)=0 listen(7)=2 listen(9999)=2
+            garden"quick 1 p=1;slow 1 p=0"=0 listen(7)=2
             """);
         Script.run("21: a WORD is 0 .. 9999, also where there are none", """
             listen(-1)=BAD listen(10000)=BAD listen(MIN)=BAD listen(MAX)=BAD listen(0)=NEVER listen(9999)=NEVER
@@ -405,6 +421,11 @@ public final class EdgesOfHearingTest {
             plant(6, 0)=0 plant(0, 0)=1 touch(0, 1, true)=0 row(0, 0, 1)=0 row(0, 1, 2)=0 row(0, 2, 3)=0 row(0, 3, 4)=0
             planned(0, 1)=4 plan(2, 0)=1 planned(0, 1)=6 plan(2, 0)=2 planned(0, 1)=4 pass(1)=1 planned(0, 1)=5
             plan(2, 0)=3 planned(0, 1)=7 plan(2, 0)*5=8 planned(0, 1)=5 garden"slow 5 d=2;slow 9 h=1"=0 planned(0, 1)=19
+            """);
+        Script.run("27: by number, KIND, v and TOUCHES as they are", """
+            plant(6, 4)=0 plant(2, 7)=1 plant(0, 0)=2 touch(0, 1, true)=0 touch(1, 2, true)=0 touch(1, 0, true)=0 planned(0, 2)=9
+            garden"slow 1 v=4;slow 2 v=7;slow 8 v=0;slow 10 k=6;slow 20 k=2;slow 40 p=1;slow 50 t=2;slow 60 t=1"=0
+            planned(0, 1)=74 planned(1, 2)=230 planned(0, 2)=304 plan(2, 0)=1 planned(0, 2)=304 plan(0, 2)=2 planned(0, 1)=74 planned(1, 0)=230
             """);
         Script.run("27: six HOURS go beyond 9999, too", """
             plant(0, 0)=0 plant(0, 0)=1 touch(0, 1, true)=0 pass(99)*100=9900 pass(94)=9994 garden"slow 1 h=16;slow 2 h=15;slow 4 d=99"=0

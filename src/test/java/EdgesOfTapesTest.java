@@ -10,6 +10,7 @@ public final class EdgesOfTapesTest {
         imageAndGardens();
         imageLeaves();
         actRefused();
+        actOfEveryKind();
         actWraps();
         actOfTheDead();
         trace();
@@ -137,6 +138,25 @@ public final class EdgesOfTapesTest {
             act(1, 2, 5)=10 trace(2)=10 act(1, -1, 5)=0 count(6)=0 trace(0)=NONE trace(2)=NONE
             act(1, 0, 5)=6 act(MAX, 0, 5)=0 count(6)=0 act(1, 0, 5)=6 act(1, MIN, 5)=0 count(6)=0
             act(1, 0, 5)=6 act(8, 3, 5)=0 count(6)=0 act(1, 0, -1)=0 count(6)=1
+            """);
+    }
+
+    private static void actOfEveryKind() {
+        Script.run("33: an ACT is 0 .. 2, of every KIND", """
+            plant(0, 0)=0 plant(1, 0)=1 plant(2, 0)=2 plant(3, 0)=3 plant(4, 0)=4 plant(5, 0)=5 plant(6, 0)=6
+            act(0, 3, 5)=0 count(6)=0 act(1, 3, 5)=0 count(6)=0 act(2, 3, 5)=0 count(6)=0 act(3, 3, 5)=0 count(6)=0 act(4, 3, 5)=0 count(6)=0
+            act(5, 3, 5)=0 count(6)=0 act(6, 3, 5)=0 count(6)=0 act(0, -1, 5)=0 count(6)=0 act(1, -1, 5)=0 count(6)=0 act(2, -1, 5)=0 count(6)=0
+            act(3, -1, 5)=0 count(6)=0 act(4, -1, 5)=0 count(6)=0 act(5, -1, 5)=0 count(6)=0 act(6, -1, 5)=0 count(6)=0
+            act(6, MAX, 5)=0 count(6)=0 act(6, MIN, 5)=0 count(6)=0
+            """);
+        Script.run("33: the body of its KIND, or of the next KIND above that has one", """
+            plant(0, 0)=0 plant(1, 0)=1 plant(2, 0)=2 plant(3, 0)=3 plant(4, 0)=4 plant(5, 0)=5 plant(6, 0)=6
+            act(1, 0, 5)=6 trace(0)=10 count(6)=1 act(1, 1, 5)=0 trace(0)=20 trace(1)=11 act(1, 2, 5)=0 trace(0)=12 trace(1)=20 count(6)=4
+            act(2, 1, 5)=17 trace(0)=11 trace(1)=30 count(6)=3 act(2, 2, 5)=34 trace(0)=12 count(6)=4
+            act(3, 0, 5)=8 trace(0)=10 act(3, 1, 5)=8 trace(0)=11 act(3, 2, 5)=20 trace(0)=40 trace(1)=12 trace(2)=11 trace(4)=11 count(6)=6
+            act(4, 2, 5)=-32 trace(0)=12 trace(1)=51 trace(2)=20 trace(3)=11 trace(4)=50 trace(5)=10 count(6)=6
+            act(5, 0, 5)=20 trace(0)=30 act(5, 1, 5)=20 trace(0)=11 trace(1)=30 act(5, 2, 5)=10 trace(0)=60 trace(1)=12 count(6)=5
+            act(6, 0, 5)=11 trace(0)=71 trace(1)=10 act(6, 1, 5)=19 trace(0)=70 count(6)=5
             """);
     }
 
