@@ -292,6 +292,11 @@ public final class EdgesOfHearingTest {
             plant(3, 0)=0 plant(0, 0)=1 plant(0, 0)=2 touch(0, 2, true)=0 touch(1, 2, true)=0
             listen(0)=0 listen(1)=2 listen(9999)=2 garden"lose 1"=0 listen(9999)=0 garden"lose 1;slow 1 p=0"=1 listen(9999)=2
             """);
+        Script.run("21: among eight", """
+            plant(0, 0)*8=7 listen(5)=0 touch(0, 7, true)=0 listen(5)=7 touch(1, 6, true)=0 listen(5)=6 touch(6, 7, true)=0 listen(5)=7
+            touch(7, 0, true)=0 touch(5, 1, true)=0 touch(4, 5, true)=0 touch(3, 4, true)=0 touch(2, 3, true)=0 listen(5)=0 touch(0, 2, true)=0
+            listen(5)=0 kill(2, true)=0 listen(5)=0 kill(7, true)=0 listen(5)=6
+            """);
         Script.run("21: as many HOURS more as the WORD is less are unlike all the same", """
             plant(1, 3)=0 plant(2, 0)=1 plant(0, 0)=2 touch(0, 2, true)=0 touch(1, 2, true)=0 listen(7)=2 listen(9999)=2
             garden"quick 1 p=1;slow 1 p=0"=0 listen(7)=2

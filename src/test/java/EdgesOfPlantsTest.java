@@ -111,6 +111,10 @@ public final class EdgesOfPlantsTest {
             garden"slow 99 p<8;slow 99 p<8;slow 99 p<8;slow 99 p<8;slow 99 p<8;slow 99 p<8;slow 99 p<8;slow 99 p<8"=4 of(0, 4)=795
             garden"slow 5 p=0;slow 5 p=0;quick 7 p=1"=5 of(0, 4)=13
             """);
+        Script.run("PACE: of ten CLAUSES, the first and the last among them", """
+            plant(0, 0)=0 garden"slow 1 p<1;lose 1;lose 1;lose 1;lose 1;lose 1;lose 1;lose 1;lose 1;slow 2 p<1"=0 of(0, 4)=6
+            garden"slow 9 p<1;slow 9 p<1;slow 9 p<1;slow 9 p<1;x"=-54 garden"lose 3;slow 1 v>0"=1 of(0, 4)=3
+            """);
         Script.run("PACE: the n of those whose E holds, of that PLANT", """
             plant(0, 0)=0 plant(1, 5)=1 garden"slow 1 p=0;slow 2 k=1;slow 4 v=5;slow 8 p>1;quick 1 p=1"=0 of(0, 4)=4 of(1, 4)=8
             """);
@@ -297,6 +301,10 @@ public final class EdgesOfPlantsTest {
     }
 
     private static void aFaultLeavesTheGarden() {
+        Script.run("9: a text with a fault leaves nothing behind for the next one", """
+            plant(0, 0)=0 garden"frost 7;slow 9 p<9&p<9&p<9&p<9&p<9;slow 9 p<9;lose 9;x"=-60 garden"lose 3;lose 4;slow 5 p=0&v=0"=0
+            of(0, 4)=8 told(1)=20 told(2)=4
+            """);
         Script.run("9: the one that held holds, and THE TEXT is empty then", """
             plant(5, 0)=0
             garden"frost 7;lose x"=-23 told(1)=20 told(2)=2 count(1)=0 count(5)=0

@@ -94,6 +94,13 @@ public final class EdgesOfTapesTest {
             kill(2, true)=NONE touch(0, 2, true)=NONE row(2, 0, 0)=NONE
             plant(6, 1)=2 of(2, 2)=0 of(2, 3)=0 of(2, 1)=1 row(2, 0, 0)=0 row(2, 3, 0)=0 told(3)=2
             """);
+        Script.run("32: THE IMAGE stays as it was, whatever becomes of what it brought back", """
+            plant(6, 3)=0 plant(1, 4)=1 touch(0, 1, true)=0 kill(1, true)=0 row(0, 0, 5)=0 pass(4)=4 garden"lose 3"=0 image()=2
+            touch(0, 1, false)=1 kill(1, false)=1 row(0, 0, 6)=5 pass(1)=5 garden"lose 4"=1 undo()=2
+            of(0, 2)=2 told(3)=2 of(0, 5)=8 told(0)=4 told(2)=3
+            touch(0, 1, false)=1 touch(1, 0, true)=0 kill(1, false)=1 kill(0, true)=0 row(0, 0, 7)=5 pass(1)=5 garden"lose 5"=2 undo()=2
+            of(0, 2)=2 of(1, 2)=0 told(3)=2 of(0, 5)=8 told(0)=4 told(2)=3 of(1, 0)=1 of(1, 1)=4
+            """);
         Script.run("32: HOUR, SEEN, the PLAN, the BOOK", """
             plant(0, 0)*2=1 pass(7)=7 see(0, 5, 0)=1 plan(0, 0)=1 book(0, 1, 9)=1 image()=2
             pass(9)=16 see(0, 6, 0)=2 plan(1, 0)=2 plan(2, 0)=3 book(0, 0, 0)=2 undo()=2
