@@ -302,7 +302,7 @@ public final class EdgesOfPlantsTest {
 
     private static void aFaultLeavesTheGarden() {
         Script.run("9: a text with a fault leaves nothing behind for the next one", """
-            plant(0, 0)=0 garden"frost 7;slow 9 p<9&p<9&p<9&p<9&p<9;slow 9 p<9;lose 9;x"=-60 garden"lose 3;lose 4;slow 5 p=0&v=0"=0
+            plant(0, 0)=0 garden"frost 7;slow 9 p<9&p<9&p<9&p<9&p<9;slow 9 p<9;lose 9;x"=-63 garden"lose 3;lose 4;slow 5 p=0&v=0"=0
             of(0, 4)=8 told(1)=20 told(2)=4
             """);
         Script.run("9: the one that held holds, and THE TEXT is empty then", """
