@@ -803,9 +803,9 @@ public final class BoxHedge {
             for (int k = 1; k < MOST_CLAUSES && fine && at < length; k++) {
                 fine = skips(';') && isClause();
             }
-            fine &= at >= length;
+            boolean whole = fine && at >= length;
             length = 0;
-            return fine ? -1 : at;
+            return whole ? -1 : at;
         }
 
         private boolean isClause() {
@@ -1210,7 +1210,7 @@ public final class BoxHedge {
             for (int one = 0; one < hedge.size; one++) {
                 boolean known = false;
                 for (int before = 0; before < one; before++) {
-                    known |= hearings[start + before] == hearings[start + one];
+                    known = known || hearings[start + before] == hearings[start + one];
                 }
                 unlike += known ? 0 : 1;
             }
