@@ -140,13 +140,15 @@ public final class LanguageTest {
         }
     }
 
-    /** Lines of each method, and how deep calls go; methods of one name are taken for one. */
+    /** Lines of each method, what it makes, and how deep calls go; methods of one name are taken for one. */
     private static void methods(String code) {
         Map<String, Set<String>> calls = new HashMap<>();
         Matcher m = METHOD.matcher(code);
         while (m.find()) {
             String body = m.group(6);
             check(body.split("\n").length <= 60, m.group(4) + " is long");
+            boolean isConstructor = m.group(3) == null;
+            check(isConstructor || !Pattern.compile("\\bnew\\b|\\.clone\\(|\\bcopyOf").matcher(body).find(), m.group(4) + " makes something");
             Set<String> called = calls.computeIfAbsent(m.group(4), name -> new HashSet<>());
             Matcher c = Pattern.compile("(\\w+)\\(").matcher(body);
             while (c.find()) {
