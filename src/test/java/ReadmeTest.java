@@ -1,4 +1,5 @@
 import java.io.IOException;
+import java.nio.file.FileVisitOption;
 import java.nio.file.Files;
 import java.nio.file.Path;
 import java.util.Comparator;
@@ -118,7 +119,7 @@ public final class ReadmeTest {
     }
 
     private static void copy(Path from, Path to) throws IOException {
-        for (Path each : tree(from)) {
+        for (Path each : tree(from, FileVisitOption.FOLLOW_LINKS)) {
             Path copy = to.resolve(from.relativize(each));
             if (Files.isDirectory(each)) {
                 Files.createDirectories(copy);
@@ -136,8 +137,8 @@ public final class ReadmeTest {
     }
 
     /** Each folder ahead of what it holds. */
-    private static List<Path> tree(Path root) throws IOException {
-        try (Stream<Path> all = Files.walk(root)) {
+    private static List<Path> tree(Path root, FileVisitOption... how) throws IOException {
+        try (Stream<Path> all = Files.walk(root, how)) {
             return all.sorted(Comparator.naturalOrder()).toList();
         }
     }
